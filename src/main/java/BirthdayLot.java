@@ -475,6 +475,14 @@ public final class BirthdayLot {
         boolean endsYear(int drum, int draws, int t) {
             return draws + 1 >= perYear || drumWithout(drum, t) == 0;
         }
+
+        int drumAfter(int drum, int draws, int t) {
+            return endsYear(drum, draws, t) ? everyTicket() : drumWithout(drum, t);
+        }
+
+        int drawsAfter(int drum, int draws, int t) {
+            return endsYear(drum, draws, t) ? 0 : draws + 1;
+        }
     }
 
     /** All that draws, sales and pawns change: what is undone and what an image keeps. */
@@ -582,14 +590,10 @@ public final class BirthdayLot {
         }
 
         void passDraw(Rules rules, int t) {
-            if (rules.endsYear(drum, draws, t)) {
-                drum = rules.everyTicket();
-                draws = 0;
-                years++;
-            } else {
-                drum = rules.drumWithout(drum, t);
-                draws++;
-            }
+            int drumBefore = drum;
+            if (rules.endsYear(drumBefore, draws, t)) years++;
+            drum = rules.drumAfter(drumBefore, draws, t);
+            draws = rules.drawsAfter(drumBefore, draws, t);
         }
     }
 
@@ -1092,12 +1096,12 @@ public final class BirthdayLot {
                 int after = older(before);
                 boolean lit = holds(all.people, who);
                 if (lit && after > all.told[who]) continue;
-                boolean ends = rules.endsYear(drum, draws, t);
-                int nextDrum = ends ? rules.everyTicket() : rules.drumWithout(drum, t);
+                int nextDrum = rules.drumAfter(drum, draws, t);
+                int nextDraws = rules.drawsAfter(drum, draws, t);
                 int nextMissing = lit ? missing - (after - before) : missing;
                 all.row[depth] = t;
                 all.age[who] = after;
-                extend(all, rules, now, depth + 1, nextDrum, ends ? 0 : draws + 1, nextMissing);
+                extend(all, rules, now, depth + 1, nextDrum, nextDraws, nextMissing);
                 all.age[who] = before;
             }
         }
@@ -1134,9 +1138,9 @@ public final class BirthdayLot {
             for (int i = 0; i < lines; i++) {
                 int t = line[i];
                 if (!holds(drum, t)) return i;
-                boolean ends = rules.endsYear(drum, draws, t);
-                drum = ends ? rules.everyTicket() : rules.drumWithout(drum, t);
-                draws = ends ? 0 : draws + 1;
+                int drumBefore = drum;
+                drum = rules.drumAfter(drumBefore, draws, t);
+                draws = rules.drawsAfter(drumBefore, draws, t);
             }
             return NONE;
         }
