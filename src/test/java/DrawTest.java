@@ -86,6 +86,11 @@ public final class DrawTest {
         check.due("lots(99)", out.lots(99) >= 0 ? 1 : 0, 1);
         check.due("years of three draws", out.told(3), 34);
         check.due("goes on", out.told(13), 30);
+        // The greatest seed: 2147483647 becomes 1043980748, / 65536 is 15929: 14 of 15.
+        BirthdayLot great = Check.townOf("p0 0;t0 9 0;t0 5 0;t0 1 0;");
+        great.seed(2147483647);
+        check.due("15929 is 14 of 15", great.lots(1), 2);
+        check.due("seed", great.seed(0), 1043980748);
     }
 
     private static void sales() {

@@ -84,6 +84,12 @@ public final class SeenTest {
         check.due("rows(1, NONE)", lot.rows(1, -1), 0);
         check.due("rows(1, 0)", lot.rows(1, 0), Check.NONE);
         check.due("sure(1)", lot.sure(1), 0);
+        check.due("rows(4, NONE)", lot.rows(4, -1), 24);
+        check.due("sure(4)", lot.sure(4), 2);
+        check.due("candles(0, 0)", lot.candles(0, 0), 1);
+        check.due("none so young", lot.rows(4, -1), 0);
+        check.due("candles(0, 999)", lot.candles(0, 999), 1);
+        check.due("none so old", lot.rows(4, 3), Check.NONE);
         check.due("the latest of each", lot.candles(0, 11), 1);
         check.due("rows(2, NONE)", lot.rows(2, -1), 4);
         check.due("rows(2, 0)", lot.rows(2, 0), 0);

@@ -40,6 +40,8 @@ public final class TownTest {
         check.due("tear()", lot.tear(), 0);
         check.due("seed(0)", lot.seed(0), 0);
         check.due("undo(1)", lot.undo(1), Check.NOT);
+        check.due("goBack(0)", lot.goBack(0), Check.NOT);
+        check.due("goBack(1)", lot.goBack(1), Check.NOT);
         check.due("town()", lot.town(), 0);
     }
 
@@ -175,9 +177,11 @@ public final class TownTest {
     }
 
     private static void townForgets() {
-        BirthdayLot lot = Check.townOf("p17 30;p5 0;t0 1 10;t1 2 5;y1 0;");
+        BirthdayLot lot = Check.townOf("p17 30;p5 0;t0 1 10;t1 2 5;y2 0;");
         lot.keep(0);
         lot.lots(3);
+        check.due("years ahead", lot.told(3), 1);
+        check.due("draws ahead", lot.told(4), 1);
         lot.pawn(1, 0);
         lot.see(1);
         lot.candles(1, 7);

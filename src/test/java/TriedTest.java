@@ -34,6 +34,12 @@ public final class TriedTest {
         lot.draw(1);
         check.due("one is left: odds(0, 1)", lot.odds(0, 1), 333333333);
         check.due("one is left: odds(0, 2)", lot.odds(0, 2), 0);
+        BirthdayLot alone = Check.townOf("p10 0;t0 1 0;y8 1;");
+        check.due("the only ticket: odds(0, 8)", alone.odds(0, 8), 1000000000);
+        check.due("the only ticket: never(0, 1)", alone.never(0, 1), 0);
+        BirthdayLot half = Check.townOf("p10 0;p10 0;t0 1 0;t1 1 0;y8 1;");
+        check.due("half: odds(0, 8)", half.odds(0, 8), 3906250);
+        check.due("half: odds(0, 7)", half.odds(0, 7), 35156250);
     }
 
     private static void oddsWithoutReturn() {
@@ -58,6 +64,10 @@ public final class TriedTest {
         check.due("two draws: odds(0, 1)", two.odds(0, 1), 104761904 + 285714284);
         check.due("two draws: odds(1, 2)", two.odds(1, 2), 609523808);
         check.due("two draws: odds(1, 1)", two.odds(1, 1), 999999996);
+        // 70 sets of four can be left of eight alike: 1680 rows of 595238 each, but for what is cut.
+        BirthdayLot eight = Check.townOf("p0 0;t0 1 0;t0 1 0;t0 1 0;t0 1 0;t0 1 0;t0 1 0;t0 1 0;t0 1 0;y4 0;");
+        check.due("eight, four draws", eight.odds(0, 4), 999999840);
+        check.due("eight, five birthdays", eight.odds(0, 5), 0);
     }
 
     private static void oddsWithoutTickets() {
@@ -139,6 +149,11 @@ public final class TriedTest {
         check.due("fewest again, then the least set", lot.buy(0, 1, 33, 1), 4);
         lot.sell(2, 0);
         check.due("held already", lot.buy(0, 1, 33, 1), 0);
+        lot.draw(2);
+        check.due("just of age has it", lot.buy(0, 1, 100, 1), 0);
+        BirthdayLot cut = Check.townOf("p17 9;p18 9;t0 1 1;t1 1 2;t1 1 3;y3 0;");
+        check.due("cut odds are below a hundred", cut.buy(0, 1, 100, 0), Check.NONE);
+        check.due("just of age has it for sure", cut.buy(1, 1, 100, 0), 0);
     }
 
     private static void evens() {
@@ -160,6 +175,13 @@ public final class TriedTest {
         check.due("with", with.evens(1, 1), 1);
         with.draw(0);
         check.due("this year is begun anew", with.evens(1, 1), 0);
+        // The lots 0, 21468, 9988, 22117: with return 0, 0, 1, 1 are drawn: 12, 12, 20;
+        // without, 0 and 1 in the first year, 1 and 2 in the second: 11, 12, 21.
+        BirthdayLot years = Check.townOf("p10 0;p10 0;p20 0;t0 1 0;t1 1 0;t2 1 0;y2 1;");
+        check.due("two years", years.evens(2, 1), 8);
+        check.due("two years", years.evens(2, 0), 1);
+        check.due("one year", years.evens(1, 1), 9);
+        check.due("one year", years.evens(1, 0), 0);
         BirthdayLot nobody = Check.townOf("p10 0;");
         check.due("no tickets", nobody.evens(1, 0), Check.NOT);
         check.due("no tickets", nobody.evens(0, 0), Check.OUTSIDE);
@@ -183,6 +205,8 @@ public final class TriedTest {
         all(last, 10, 1, 1, 0, -1);
         BirthdayLot early = Check.townOf("p4 0;p3 0;r0 0 4 0;");
         all(early, 5, 0, -1, -1);
+        BirthdayLot just = Check.townOf("p18 0;p18 0;p17 0;");
+        all(just, 99, 1, 1, 0, -1);
         BirthdayLot free = Check.townOf("p4 0;p3 0;r99 99 3 99;");
         all(free, 1, 1, 1, 0);
         all(free, 0, 0, -1, -1);
