@@ -956,14 +956,21 @@ public final class BirthdayLot {
 
         /** Lesser sets are known already: a set only loses people. */
         private int mostAmong(int free, int people) {
-            if (free == 0) return 0;
-            int p = Integer.numberOfTrailingZeros(free);
+            int p = firstOf(free, people);
+            if (p == NONE) return 0;
             int others = free & ~(1 << p);
             int best = most[others];
             for (int q = p + 1; q < people; q++) {
                 if (holds(others & fitting[p], q)) best = Math.max(best, 1 + most[others & ~(1 << q)]);
             }
             return best;
+        }
+
+        private static int firstOf(int set, int people) {
+            for (int p = 0; p < people; p++) {
+                if (holds(set, p)) return p;
+            }
+            return NONE;
         }
 
         private void choose(int everyone, int people) {
