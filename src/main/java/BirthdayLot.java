@@ -246,11 +246,10 @@ public final class BirthdayLot {
     }
 
     public int rows(int m, int i) {
-        if (m < 1 || m > LONGEST_ROW || i < NONE || i >= m) return OUTSIDE;
+        if (m < 1 || m > LONGEST_ROW || i < NONE) return OUTSIDE;
         if (rules.tickets == 0) return NOT;
         lit.search(rules, now, m);
-        if (i == NONE) return lit.found;
-        return lit.found == 0 ? NONE : lit.first[i];
+        return i == NONE ? lit.found : lit.firstAt(i);
     }
 
     public int sure(int m) {
@@ -1087,6 +1086,12 @@ public final class BirthdayLot {
                 missing += told[p] - age[p];
             }
             extend(this, rules, now, 0, now.drum, now.draws, missing);
+        }
+
+        /** A place behind the row's end is no wrong number: the row has no ticket there. */
+        int firstAt(int i) {
+            if (found == 0 || i < 0 || i >= rowLength) return NONE;
+            return first[i];
         }
 
         /** Nobody grows younger: a row with too few draws left, or one too many, leads nowhere. */

@@ -71,7 +71,13 @@ public final class SeenTest {
         check.due("rows(0, NONE)", lot.rows(0, -1), Check.OUTSIDE);
         check.due("rows(5, NONE)", lot.rows(5, -1), Check.OUTSIDE);
         check.due("rows(2, -2)", lot.rows(2, -2), Check.OUTSIDE);
-        check.due("rows(2, 2)", lot.rows(2, 2), Check.OUTSIDE);
+        check.due("rows(5, 5)", lot.rows(5, 5), Check.OUTSIDE);
+        // Behind a row's end there is no i-th: no bound of i is told there.
+        check.due("rows(2, 2)", lot.rows(2, 2), Check.NONE);
+        check.due("rows(4, 3)", lot.rows(4, 3), 0);
+        check.due("rows(4, 4)", lot.rows(4, 4), Check.NONE);
+        check.due("rows(1, 1)", lot.rows(1, 1), Check.NONE);
+        check.due("rows(3, 2147483647)", lot.rows(3, 2147483647), Check.NONE);
         check.due("sure(5)", lot.sure(5), Check.OUTSIDE);
         check.due("sure(0)", lot.sure(0), Check.OUTSIDE);
         check.due("without candles all fits", lot.rows(4, -1), 81);
