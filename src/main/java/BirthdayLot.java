@@ -246,7 +246,7 @@ public final class BirthdayLot {
     }
 
     public int rows(int m, int i) {
-        if (m < 1 || m > LONGEST_ROW || i < NONE) return OUTSIDE;
+        if (m < 1 || m > LONGEST_ROW) return OUTSIDE;
         if (rules.tickets == 0) return NOT;
         lit.search(rules, now, m);
         return i == NONE ? lit.found : lit.firstAt(i);
@@ -1088,7 +1088,7 @@ public final class BirthdayLot {
             extend(this, rules, now, 0, now.drum, now.draws, missing);
         }
 
-        /** A place behind the row's end is no wrong number: the row has no ticket there. */
+        /** No i is a wrong number, below 0 or behind the row's end: the row has no ticket there. */
         int firstAt(int i) {
             if (found == 0 || i < 0 || i >= rowLength) return NONE;
             return first[i];

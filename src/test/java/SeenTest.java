@@ -70,9 +70,12 @@ public final class SeenTest {
         check.due("candles(0, -1)", lot.candles(0, -1), Check.OUTSIDE);
         check.due("rows(0, NONE)", lot.rows(0, -1), Check.OUTSIDE);
         check.due("rows(5, NONE)", lot.rows(5, -1), Check.OUTSIDE);
-        check.due("rows(2, -2)", lot.rows(2, -2), Check.OUTSIDE);
+        check.due("rows(5, -2)", lot.rows(5, -2), Check.OUTSIDE);
+        check.due("rows(0, -2147483648)", lot.rows(0, -2147483648), Check.OUTSIDE);
         check.due("rows(5, 5)", lot.rows(5, 5), Check.OUTSIDE);
-        // Behind a row's end there is no i-th: no bound of i is told there.
+        // Below 0 and behind a row's end there is no i-th: no bound of i is told on either side.
+        check.due("rows(2, -2)", lot.rows(2, -2), Check.NONE);
+        check.due("rows(4, -2147483648)", lot.rows(4, -2147483648), Check.NONE);
         check.due("rows(2, 2)", lot.rows(2, 2), Check.NONE);
         check.due("rows(4, 3)", lot.rows(4, 3), 0);
         check.due("rows(4, 4)", lot.rows(4, 4), Check.NONE);

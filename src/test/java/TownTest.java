@@ -35,7 +35,9 @@ public final class TownTest {
         check.due("rows(1, NONE)", lot.rows(1, -1), Check.NOT);
         check.due("rows(1, 1)", lot.rows(1, 1), Check.NOT);
         check.due("rows(4, 2147483647)", lot.rows(4, 2147483647), Check.NOT);
-        check.due("rows(4, -2)", lot.rows(4, -2), Check.OUTSIDE);
+        check.due("rows(1, -2)", lot.rows(1, -2), Check.NOT);
+        check.due("rows(4, -2147483648)", lot.rows(4, -2147483648), Check.NOT);
+        check.due("rows(0, -2)", lot.rows(0, -2), Check.OUTSIDE);
         check.due("rows(5, NONE)", lot.rows(5, -1), Check.OUTSIDE);
         check.due("sure(1)", lot.sure(1), Check.NOT);
         check.due("sure(0)", lot.sure(0), Check.OUTSIDE);

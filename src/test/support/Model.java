@@ -536,10 +536,10 @@ public final class Model {
     }
 
     private int rows(int m, int i) {
-        if (m < 1 || m > 4 || i < -1) return OUTSIDE;
+        if (m < 1 || m > 4) return OUTSIDE;
         if (w.weight.isEmpty()) return NOT;
         List<int[]> all = fitting(m);
-        return i == NONE ? all.size() : all.isEmpty() || i >= m ? NONE : all.get(0)[i];
+        return i == NONE ? all.size() : all.isEmpty() || i < 0 || i >= m ? NONE : all.get(0)[i];
     }
 
     private int sure(int m) {
