@@ -28,7 +28,7 @@ public final class ModelTest {
 
     private static int both(String name, int a, int b, int c, int d) {
         calls++;
-        int got = ask(name, a, b, c, d);
+        int got = Calls.ask(lot, name, a, b, c, d);
         check.due("run " + run + ", call " + calls + ": " + name + "(" + a + ", " + b + ", " + c + ", " + d + ")", got,
             model.call(name, a, b, c, d));
         return got;
@@ -145,42 +145,5 @@ public final class ModelTest {
             text.append(';');
         }
         return text.toString();
-    }
-
-    private static int ask(String name, int a, int b, int c, int d) {
-        switch (name) {
-            case "feed": return lot.feed(a);
-            case "town": return lot.town();
-            case "fault": return lot.fault();
-            case "told": return lot.told(a);
-            case "person": return lot.person(a, b);
-            case "ticket": return lot.ticket(a, b);
-            case "right": return lot.right(a);
-            case "draw": return lot.draw(a);
-            case "lots": return lot.lots(a);
-            case "sell": return lot.sell(a, b);
-            case "pawn": return lot.pawn(a, b);
-            case "price": return lot.price(a, b);
-            case "undo": return lot.undo(a);
-            case "odds": return lot.odds(a, b);
-            case "never": return lot.never(a, b);
-            case "buy": return lot.buy(a, b, c, d);
-            case "evens": return lot.evens(a, b);
-            case "couples": return lot.couples(a, b);
-            case "see": return lot.see(a);
-            case "belief": return lot.belief(a);
-            case "likeliest": return lot.likeliest();
-            case "candles": return lot.candles(a, b);
-            case "rows": return lot.rows(a, b);
-            case "sure": return lot.sure(a);
-            case "write": return lot.write(a);
-            case "judge": return lot.judge();
-            case "ageBy": return lot.ageBy(a);
-            case "tear": return lot.tear();
-            case "seed": return lot.seed(a);
-            case "keep": return lot.keep(a);
-            case "goBack": return lot.goBack(a);
-            default: throw new IllegalArgumentException(name);
-        }
     }
 }
