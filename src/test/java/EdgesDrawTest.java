@@ -62,6 +62,8 @@ public final class EdgesDrawTest {
             .due(1, "told", 4).due(1, "told", 7).due(0, "draw", 0).due(1, "told", 3).due(0, "told", 4).due(3, "told", 7);
         edge(9, "(or when none is IN THE DRUM)").town("p1 1;t0 1 0;y8 0;").times(3, "draw", 0).due(3, "told", 3).due(0, "told", 4)
             .due(1, "told", 7);
+        edge(9, "(or when none is IN THE DRUM)").town("p1 1;t0 1 0;t0 1 0;y3 0;").due(0, "draw", 0).due(0, "draw", 1).due(1, "told", 3)
+            .due(0, "draw", 0).due(1, "told", 3).due(1, "told", 4).refused(NOT, "draw", 0).due(0, "draw", 1).due(2, "told", 3);
         // Both at once end one YEAR, not two.
         edge(9, "(or when none is IN THE DRUM)").town("p1 1;t0 1 0;t0 1 0;y2 0;").due(0, "draw", 1).due(0, "draw", 0)
             .due(1, "told", 3).due(0, "told", 4);
@@ -243,6 +245,10 @@ public final class EdgesDrawTest {
             .due(1, "draw", 1).due(1, "told", 3);
         edge(14, "THE SEED stays").town(text).times(1, "lots", 4).due(0, "undo", 4).due(1449466924, "seed", 7).times(1, "draw", 0)
             .due(7, "seed", 9).due(0, "undo", 1).due(9, "seed", 0);
+        // What was seen since, and THE TEXT, are no part of section 2: they stay (NOTES.md tells this reading).
+        edge(14, "with all that was done since (COINS, PRICES too)").town(text).due(0, "draw", 0).due(1, "see", 0).due(2, "candles", 1, 30)
+            .due(1, "write", 1).letters("p1 1;").due(0, "undo", 1).due(1, "told", 10).due(2, "told", 11).due(1, "told", 12)
+            .due(5, "told", 2).due(3, "tear").due(1, "town");
         // At AGE 999 and 9999 COINS a DRAW changes the YEAR alone, and that is undone.
         edge(14, "The n latest DRAWS (1 .. 30) are undone: YEARS").town("p99 0;t0 1 0;y1 1;").times(10, "lots", 99).due(0, "draw", 0)
             .due(990, "undo", 1).people(0, 999).people(1, 9999);

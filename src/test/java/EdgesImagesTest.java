@@ -75,9 +75,10 @@ public final class EdgesImagesTest {
             .due(33, "price", 0, 1).due(77, "seed", 88).due(1, "draw", 0).people(0, 21, 30).due(1, "goBack", 0).people(0, 20, 29)
             .people(1, 53, 50).tickets(0, 0, 1).tickets(2, 33, 5).tickets(3, NONE, 0).due(0, "told", 3).due(1, "told", 4)
             .due(2, "told", 7).due(77, "seed", 0);
-        // What was seen is of section 3: going back leaves it as it is.
+        // What was seen is of section 3, THE TEXT of section 1: going back leaves them as they are.
         edge(32, "IMAGES 0, 1 keep all of section 2").town(TEXT).due(1, "keep", 0).due(1, "see", 0).due(1, "candles", 0, 20)
-            .due(1, "write", 1).due(1, "goBack", 0).due(1, "told", 10).due(1, "told", 11).due(1, "told", 12).due(3, "tear");
+            .due(1, "write", 1).letters("p1 1;").due(1, "goBack", 0).due(1, "told", 10).due(1, "told", 11).due(1, "told", 12)
+            .due(5, "told", 2).due(3, "tear").due(1, "town");
         // AGES, COINS and YEARS at their bounds come back whole.
         edge(32, "IMAGES 0, 1 keep all of section 2").town("p99 999;t0 1 99;y1 1;").times(10, "lots", 99).due(1, "keep", 1)
             .due(0, "draw", 0).due(99, "price", 0, 0).due(1, "goBack", 1).people(0, 999).people(1, 9999).tickets(2, 99)

@@ -67,6 +67,10 @@ public final class EdgesSeenTest {
             .due(0, "belief", NONE);
         edge(21, "(0, if they are 0)").town(light).times(6, "see", 0).due(0, "belief", 0).due(0, "belief", 1).due(0, "belief", NONE);
         edge(21, "(0, if they are 0)").town(light).times(8, "see", 0).due(0, "belief", 0).due(0, "belief", 7).due(0, "belief", NONE);
+        // Together they are 1, not 0: the guess 1 alone is left, and all of it.
+        edge(21, "(0, if they are 0)").town("p1 1;t0 2 0;t0 1 0;t0 8 0;t0 1 0;t0 6 0;").times(2, "see", 3).times(2, "see", 1)
+            .times(1, "see", 3).times(3, "see", 1).due(1000000, "belief", 1).due(0, "belief", 3).due(0, "belief", NONE)
+            .due(1, "likeliest");
         // The WEIGHT of all TICKETS counts, though one is OUT of this YEAR's drum.
         edge(21, "each from all TICKETS").town("p1 1;t0 1 0;t0 3 0;y2 0;").due(0, "draw", 1).times(1, "see", 0).due(504504, "belief", 0)
             .due(315315, "belief", NONE);
@@ -147,6 +151,9 @@ public final class EdgesSeenTest {
         edge(24, "(or when none is IN THE DRUM)").town("p10 0;p20 0;t0 1 0;t1 1 0;y8 0;").due(2, "rows", 2, NONE).due(4, "rows", 3, NONE)
             .due(4, "rows", 4, NONE).due(0, "draw", 0).due(1, "rows", 1, NONE).due(1, "rows", 1, 0).due(2, "rows", 2, NONE)
             .due(4, "rows", 4, NONE);
+        // The DRAW that would have been the third of the YEAR is the first of the next: its TICKET is OUT behind it.
+        edge(24, "(or when none is IN THE DRUM)").town("p10 0;t0 1 0;t0 1 0;y3 0;").due(4, "rows", 3, NONE).due(4, "rows", 4, NONE)
+            .due(0, "rows", 4, 2).due(1, "rows", 4, 3);
         edge(24, "of this YEAR and on").town("p10 0;t0 1 0;t0 1 0;y1 0;").due(16, "rows", 4, NONE);
         edge(24, "of this YEAR and on").town("p10 0;" + "t0 1 0;".repeat(8) + "y8 0;").due(1680, "rows", 4, NONE).due(3, "rows", 4, 3);
     }
@@ -206,6 +213,8 @@ public final class EdgesSeenTest {
         last.times(1, "write", 2).due(NONE, "judge").times(1, "write", 2).due(19, "judge").due(20, "told", 12);
         edge(27, "(or when none is IN THE DRUM)").town("p10 0;t0 1 0;t0 1 0;y8 0;").times(1, "write", 1).times(1, "write", 0)
             .times(1, "write", 0).times(1, "write", 1).times(1, "write", 1).due(NONE, "judge").times(1, "write", 1).due(5, "judge");
+        edge(27, "(or when none is IN THE DRUM)").town("p10 0;t0 1 0;t0 1 0;y3 0;").times(1, "write", 0).times(1, "write", 1)
+            .times(1, "write", 0).due(NONE, "judge").times(1, "write", 0).due(3, "judge").due(13, "ageBy", 0);
         edge(27, "tells TICKETS drawn from now").town(text).times(1, "write", 0).times(1, "write", 1).times(1, "write", 0)
             .due(NONE, "judge").times(1, "write", 0).due(3, "judge").due(0, "draw", 2).due(NONE, "judge").times(1, "undo", 1)
             .due(3, "judge").due(0, "draw", 0).due(0, "judge").due(0, "draw", 1).due(3, "judge");

@@ -226,6 +226,12 @@ public final class EdgesTownTest {
         edge(3, "THE TEXT (it is empty then, with a FAULT, too)").letters("p1 1").due(-11, "town").due(0, "told", 2)
             .due(0, "town").due(NONE, "fault");
         edge(3, "how many PEOPLE").due(0, "town").town("p1 1;").town(SIX).town("").due(0, "told", 0);
+        // A lesser town behind a greater one: nothing of the others is left.
+        edge(3, "becomes THE TOWN").town("p99 0;p0 0;p50 0;p50 0;p50 0;p50 0;" + EIGHT + "r0 0 0 0;").due(99, "told", 9)
+            .due(3, "couples", 99, NONE).town("p5 0;t0 2 0;r0 0 0 0;").due(1, "told", 0).due(1, "told", 1).due(1, "told", 7)
+            .due(2, "told", 8).due(0, "told", 9).due(0, "couples", 99, NONE).due(1, "rows", 4, NONE).people(3, 1).people(4, 1)
+            .refused(UNKNOWN, "person", 1, 0).refused(UNKNOWN, "ticket", 1, 0).refused(UNKNOWN, "draw", 1)
+            .refused(UNKNOWN, "pawn", 0, 1).due(0, "lots", 9);
         edge(3, "(YEAR 0, nothing PAWNED").town("p1 1;p1 1;t0 1 0;t0 1 0;y2 0;").times(3, "lots", 1).due(1, "told", 3)
             .due(1, "told", 4).town("p1 1;p1 1;t0 1 0;t0 1 0;y2 0;").due(0, "told", 3).due(0, "told", 4).due(3, "told", 7)
             .people(0, 1, 1).people(1, 1, 1);

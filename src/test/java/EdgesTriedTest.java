@@ -73,6 +73,10 @@ public final class EdgesTriedTest {
             .due(999999840, "odds", 0, 8).due(0, "odds", 1, 1).due(999999840, "odds", 1, 0);
         edge(15, "by SETS of TICKETS IN THE DRUM").town("p10 0;p10 0;t0 9 0;" + "t1 9 0;".repeat(7) + "y7 0;")
             .due(874999860, "odds", 0, 1).due(0, "odds", 0, 2).due(999999840, "odds", 1, 6).due(0, "odds", 1, 8);
+        // Four of eight can be left in 70 ways, more SETS than any other number of DRAWS leaves.
+        edge(15, "by SETS of TICKETS IN THE DRUM").town("p10 0;p10 0;" + "t0 1 0;".repeat(4) + "t1 1 0;".repeat(4) + "y4 0;")
+            .due(999999840, "odds", 0, 0).due(985714128, "odds", 0, 1).due(757142736, "odds", 0, 2).due(242857104, "odds", 0, 3)
+            .due(14285712, "odds", 0, 4).due(0, "odds", 0, 5).due(14285712, "odds", 1, 4);
         edge(15, "by SETS of TICKETS IN THE DRUM").town("p10 0;p10 0;t0 1 0;" + "t1 9 0;".repeat(7) + "y8 0;")
             .due(999999581, "odds", 0, 1).due(999999581, "odds", 1, 7).due(0, "odds", 1, 8);
     }
@@ -101,6 +105,8 @@ public final class EdgesTriedTest {
             .due(416666668, "never", 0, 1);
         edge(16, "n whole YEARS to come (1 .. 99; behind this one)").town("p10 0;p10 0;t0 1 0;t1 1 0;y2 1;").due(250000000, "never", 0, 1)
             .due(0, "draw", 0).due(250000000, "never", 0, 1);
+        edge(16, "who AGES by it is its PLEDGEE, else its HOLDER").town("p10 0;p10 0;t0 1 0;t1 1 0;y1 1;").times(1, "pawn", 0, 1)
+            .due(BILLION, "never", 0, 99).due(0, "never", 1, 1);
         edge(16, "ODDS of none in one YEAR").town("p10 0;y8 0;").due(BILLION, "never", 0, 1).due(BILLION, "never", 0, 99)
             .town("p10 0;y8 1;").due(BILLION, "never", 0, 99);
     }
@@ -133,6 +139,9 @@ public final class EdgesTriedTest {
             .due(NONE, "buy", 1, 3, 1, 1);
         edge(17, "(the empty one, if it has it)").town("p18 0;p17 0;y8 1;").due(0, "buy", 0, 1, 100, 1).due(NONE, "buy", 1, 1, 1, 1)
             .due(0, "buy", 1, 1, 0, 1).due(0, "buy", 1, 3, 0, 0);
+        // Who has it has it, though the cut ODDS of 0 birthdays are below a hundred.
+        edge(17, "(the empty one, if it has it)").town("p18 9;p20 9;t0 1 1;t1 2 2;y1 0;").due(999999999, "odds", 0, 0)
+            .due(0, "buy", 0, 1, 100, 0).due(0, "buy", 0, 1, 100, 1).due(0, "buy", 1, 1, 100, 0).due(0, "buy", 1, 1, 100, 1);
         edge(17, "(the empty one, if it has it)").town("p0 0;r0 0 0 0;").due(0, "buy", 0, 0, 100, 0).due(0, "buy", 0, 3, 100, 1);
         // More birthdays than the REST has, and than any YEAR: none of a hundred is likely, 0 always is.
         edge(17, "a RIGHT that it has not yet").town("p15 99;t0 1 0;y2 1;").due(NONE, "buy", 0, 1, 1, 0).due(0, "buy", 0, 1, 0, 0);
@@ -209,6 +218,12 @@ public final class EdgesTriedTest {
         // One TICKET: with RETURN eight DRAWS a YEAR, without it is alone IN THE DRUM and ends the YEAR.
         edge(18, "(or when none is IN THE DRUM)").town("p10 0;p13 0;t0 1 0;y8 0;").due(0, "evens", 1, 0).due(2, "evens", 1, 1)
             .due(0, "evens", 20, 0).due(17, "evens", 20, 1);
+        // Without RETURN three TICKETS go once each in a YEAR of three DRAWS: none of those drawn comes back in it.
+        edge(18, "without RETURN one that was drawn is OUT until the YEAR ends").town("p10 0;p10 0;p10 0;t0 1 0;t1 1 0;t2 1 0;y3 1;")
+            .due(0, "evens", 1, 0).due(0, "evens", 1, 1).due(0, "evens", 2, 1).due(0, "evens", 5, 1).due(0, "evens", 20, 1)
+            .due(0, "evens", 20, 0);
+        edge(18, "from now n YEARS (1 .. 20) by lot").town("p10 0;p10 0;p10 0;p10 0;t0 1 0;t1 2 0;t2 3 0;t3 4 0;y3 1;")
+            .due(1, "evens", 1, 1).due(2, "evens", 2, 1).due(3, "evens", 5, 1).due(9, "evens", 20, 1).due(0, "evens", 20, 0);
         // From now as if no DRAW of this YEAR had been: both TICKETS are IN THE DRUM, two DRAWS are to come.
         edge(18, "(this YEAR begun anew, all IN THE DRUM)").town("p10 0;p12 0;t0 1 0;t1 1 0;y2 0;").due(0, "draw", 0).times(1, "seed", 0)
             .due(2, "evens", 1, 0).due(1, "evens", 1, 1);
@@ -258,6 +273,8 @@ public final class EdgesTriedTest {
         // 30 - 40 - 50 - 60: 0 with 1 would leave the others alone.
         edge(19, "the most pairs of PEOPLE").town("p40 0;p50 0;p30 0;p60 0;").due(2, "couples", 10, NONE).due(2, "couples", 10, 0)
             .due(3, "couples", 10, 1).due(0, "couples", 10, 2).due(1, "couples", 10, 3);
+        edge(19, "the most pairs of PEOPLE").town("p40 0;p30 0;p50 0;p60 0;").due(2, "couples", 10, NONE).due(1, "couples", 10, 0)
+            .due(0, "couples", 10, 1).due(3, "couples", 10, 2).due(2, "couples", 10, 3);
         edge(19, "(PERSON by PERSON the lesser one, none last)").town("p40 0;p30 0;p50 0;").due(1, "couples", 10, NONE)
             .due(1, "couples", 10, 0).due(0, "couples", 10, 1).due(NONE, "couples", 10, 2);
         // The first PERSON would rather have anyone than none, so that the last one is alone.
