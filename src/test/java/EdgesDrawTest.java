@@ -5,6 +5,8 @@
  * and 10). A call draws 99 times at most, a YEAR has one DRAW at least, and a text of a town with a TICKET
  * takes calls of its own: fewer than 512 * 99 = 50688 YEARS. The class keeps the sentence all the same, and
  * yearsAbove90000() shows it with more calls than the document allows.
+ *
+ * Nor can lots meet "NOT: no TICKETS" and "FULL" at once (promise 10): without TICKETS the YEAR stays 0.
  */
 public final class EdgesDrawTest {
     private static final int NONE = Check.NONE, UNKNOWN = Check.UNKNOWN, OUTSIDE = Check.OUTSIDE, NOT = Check.NOT, FULL = Check.FULL;

@@ -1,4 +1,9 @@
-/** The boundary cases of promises 1 to 8, sentence by sentence: a new object, THE TEXT and its FAULTS, what is told. */
+/**
+ * The boundary cases of promises 1 to 8, sentence by sentence: a new object, THE TEXT and its FAULTS, what is told.
+ *
+ * Of the words that hold for all promises two have no case that a call could reach: "bits of such" (UNKNOWN), as
+ * no call is asked with a SET, and "/ cuts towards 0" below 0, as nothing below 0 is ever divided.
+ */
 public final class EdgesTownTest {
     private static final int NONE = Check.NONE, UNKNOWN = Check.UNKNOWN, OUTSIDE = Check.OUTSIDE, NOT = Check.NOT, FULL = Check.FULL;
     private static final int MIN = Integer.MIN_VALUE, MAX = Integer.MAX_VALUE;
