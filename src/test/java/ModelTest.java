@@ -59,8 +59,10 @@ public final class ModelTest {
         }
     }
 
+    /** Now and then nothing is told at all, or a town of nobody. */
     private static void liveTown() {
-        tell(randomTown(1 + random.nextInt(6), random.nextInt(9)));
+        int people = random.nextInt(12) == 0 ? 0 : 1 + random.nextInt(6);
+        if (random.nextInt(20) != 0) tell(randomTown(people, people == 0 ? 0 : random.nextInt(9)));
         if (random.nextInt(20) == 0) for (int i = 0; i < 12; i++) both("lots", 99, 0, 0, 0);
         int dear = 12;
         while (calls < CALLS) {
@@ -112,7 +114,7 @@ public final class ModelTest {
             case "couples": return new int[] {random.nextBoolean() ? near(0, 99) : near(0, 9), random.nextBoolean() ? -1 : p, 0, 0};
             case "belief": return new int[] {random.nextInt(4) == 0 ? -1 : t, 0, 0, 0};
             case "candles": return new int[] {p, ageNear(p), 0, 0};
-            case "rows": return new int[] {near(1, 4), near(-1, 3), 0, 0};
+            case "rows": return new int[] {near(1, 4), near(-1, 4), 0, 0};
             case "sure": return new int[] {near(1, 4), 0, 0, 0};
             case "seed": return new int[] {random.nextInt(4) == 0 ? -1 : random.nextInt() >>> 1, 0, 0, 0};
             case "keep": case "goBack": return new int[] {near(0, 1), 0, 0, 0};

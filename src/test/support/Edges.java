@@ -18,12 +18,13 @@ public final class Edges {
         check = new Check(name);
         this.first = first;
         count = new int[last - first + 1];
-        document = read();
+        document = document();
     }
 
-    private static String read() {
+    /** The document's words; none, if it is not there: the calls show what they show all the same. */
+    static String document() {
         try {
-            return plain(Files.readString(DOCUMENT));
+            return plain(Files.readString(DOCUMENT)).trim();
         } catch (IOException e) {
             System.out.println("the document was not found: sentences are not looked up");
             return "";
