@@ -51,7 +51,9 @@ public final class DocumentTest {
         while (place < document.length() && document.charAt(place) == ' ') place++;
         boolean stands = document.startsWith(text, place);
         edges.check().isTrue("the document goes on with <" + ahead() + ">, not with <" + text + ">", stands);
-        if (stands) place += text.length();
+        // A changed sentence is told by itself: reading goes on from the next one that stands as it did.
+        int at = document.indexOf(text, place);
+        if (at >= 0) place = at + text.length();
     }
 
     /** Calls that show the words that were read last. */
